@@ -306,6 +306,7 @@ public final class RnaFolder {
     }
 
     private int pairScore(int i, int j) {
+        // Reading the fold has shown that the two places fit, so their pair is of a kind.
         int strength = numbers[kindOf(bases[i], bases[j])];
         int within = 0;
         int lastWithin = NO_PLACE;
