@@ -307,7 +307,8 @@ public final class RnaFolderLanguage extends TreePathScanner<Void, Void> {
 
     @Override
     public Void visitTypeCast(TypeCastTree cast, Void none) {
-        rule(6, cast, "a cast is to a number", cast.getType() instanceof PrimitiveTypeTree && isAllowed(cast.getType()));
+        rule(6, cast, "a cast is to a number",
+                cast.getType() instanceof PrimitiveTypeTree && isAllowed(cast.getType()));
         return super.visitTypeCast(cast, none);
     }
 
